@@ -24,7 +24,7 @@ public final class LanguageTest {
         while (imports.find()) {
             Check.same("import of " + imports.group(1), imports.group(1).equals("java.util.Arrays"), true);
         }
-        Matcher statics = Pattern.compile("\\bstatic (?!final |class |int |boolean )").matcher(code);
+        Matcher statics = Pattern.compile("\\bstatic (?!final |class |[a-z]+ [a-zA-Z]+\\()").matcher(code);
         Check.same("a static field that is not final", statics.find(), false);
         methods(source);
         Check.finish();
