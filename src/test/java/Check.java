@@ -77,6 +77,23 @@ final class Check {
         return dig;
     }
 
+    /** The text is a sofa. */
+    static void holds(String text) {
+        same("errorAt() of " + text, taught(text).errorAt(), -1);
+    }
+
+    /** The text without the mark ^ has this error, where the mark stands. */
+    static void fails(int error, String marked) {
+        int place = marked.indexOf('^');
+        failsAt(error, place, marked.substring(0, place) + marked.substring(place + 1));
+    }
+
+    static void failsAt(int error, int place, String text) {
+        SofaDig dig = new SofaDig();
+        same("teach() of " + text, teachText(dig, text), error);
+        same("errorAt() of " + text, dig.errorAt(), place);
+    }
+
     private static int word(String text, int at) {
         int word = 0;
         for (int i = at; i < at + 4; i++) {
