@@ -2,7 +2,7 @@ import java.util.ArrayList;
 import java.util.List;
 import java.util.function.LongSupplier;
 
-/** What the face answers of an object, to all questions that there are of its seats, finds and strata. */
+/** What the face answers of an object, to all questions that there are of its sofa (not errorAt()). */
 final class Answers {
     private final SofaDig dig;
     private final List<String> names = new ArrayList<>();
@@ -51,7 +51,6 @@ final class Answers {
     }
 
     private void counts() {
-        add("errorAt()", dig::errorAt);
         add("seats()", dig::seats);
         add("strata()", dig::strata);
         add("finds()", dig::finds);

@@ -15,6 +15,7 @@ public final class CushionBoundsTest {
         springStays();
         springFurtherDown();
         slidesOnAndOn();
+        slidesFurtherLeft();
         slidBack();
         whatItHolds();
         belowLooseOnes();
@@ -294,6 +295,25 @@ public final class CushionBoundsTest {
         // 4 from 1 to 0 until they are 4 and 6, and one from 2 to 1.
         Check.same("takeProp(1)", wide.takeProp(1), 5);
         heights("behind the row's slides", wide, 4, 7, 9, 10, 10, 10, 10, 10);
+    }
+
+    /** A slide can make a seat low to which the row was looked through already. */
+    private static void slidesFurtherLeft() {
+        SofaDig dig = Check.taught("seats 3 layers 10;");
+        digs(dig, 1, 3);
+        digs(dig, 2, 6);
+        heights("at first", dig, 10, 7, 4);
+        dig.dig(2);
+        heights("10, 7, 3 slides at 2, and then at 1", dig, 9, 7, 4);
+        Check.same("slides()", dig.slides(), 2);
+        SofaDig back = Check.taught("seats 3 layers 10;");
+        back.prop(2);
+        digs(back, 1, 4);
+        digs(back, 0, 7);
+        heights("at first", back, 3, 6, 10);
+        Check.same("takeProp(2)", back.takeProp(2), 2);
+        heights("3, 6, 10 slides at 1, and then at 0", back, 4, 6, 9);
+        Check.same("topStratum(0)", back.topStratum(0), 9);
     }
 
     /** What slid to the right can slide to the left again, and is loose all the time. */

@@ -15,6 +15,7 @@ public final class DayBoundsTest {
         foundOnTheThirtieth();
         neverFound();
         foundByOtherMeans();
+        fromWhatIs();
         wouldSlide();
         wouldSlideByProps();
         bestByFewestSlides();
@@ -165,6 +166,36 @@ public final class DayBoundsTest {
         Check.same("daysUntilFound(0)", dig.daysUntilFound(0), 0);
     }
 
+    /** What would be starts from what is: stacks that slid, loose cushions, sure finds, props. */
+    private static void fromWhatIs() {
+        SofaDig slid = Check.taught("seats 2 layers 4;coin in 1,3 year 1;dig 0;");
+        for (int i = 0; i < 4; i++) {
+            slid.dig(0);
+        }
+        Check.same("heightOf(0) with the coin alone", slid.heightOf(0), 1);
+        Check.same("foundAfter(1)", slid.foundAfter(1), 1);
+        Check.same("daysUntilFound(0)", slid.daysUntilFound(0), 1);
+        String sure = "seats 3 layers 4;empire a from 1 to 2;crumbs in 0,3 of a;coin in 2,3 year 1;dig 2 when seen a;dig 2 when sure 0;dig 1 when day=1;";
+        SofaDig loose = Check.taught(sure);
+        loose.prop(2);
+        for (int i = 0; i < 4; i++) {
+            loose.dig(1);
+        }
+        Check.same("isTopLoose(1)", loose.isTopLoose(1), true);
+        Check.same("foundAfter(3) of loose crumbs", loose.foundAfter(3), 1);
+        Check.same("daysUntilFound(1) of loose crumbs", loose.daysUntilFound(1), -1);
+        SofaDig found = Check.taught(sure);
+        Check.same("foundAfter(1) ahead of the crumbs", found.foundAfter(1), 0);
+        Check.same("dig(0)", found.dig(0), 0);
+        Check.same("foundAfter(1) of sure crumbs", found.foundAfter(1), 2);
+        SofaDig props = Check.taught("seats 4 layers 2;coin in 3,1 year 1;prop 3;dig 3 when props<3 or day=2;");
+        props.prop(0);
+        props.prop(1);
+        Check.same("daysUntilFound(0) with 3 props", props.daysUntilFound(0), 3);
+        props.takeProp(1);
+        Check.same("daysUntilFound(0) with 2 props", props.daysUntilFound(0), 1);
+    }
+
     private static void wouldSlide() {
         int[] slides = {0, 0, 0, 1, 0, 1, 0, 1, 0, 1};
         SofaDig dig = Check.taught("seats 2 layers 10;");
@@ -209,6 +240,12 @@ public final class DayBoundsTest {
         Check.same("bestDig()", dig.bestDig(), 1);
         dig.prop(1);
         Check.same("bestDig() with a prop", dig.bestDig(), 0);
+        SofaDig later = Check.taught("seats 2 layers 6;coin in 1,0 year 1;coin in 1,1 year 1;");
+        for (int i = 0; i < 3; i++) {
+            later.dig(1);
+        }
+        Check.same("wouldSlide(1)", later.wouldSlide(1), 1);
+        Check.same("bestDig() of the one told first", later.bestDig(), 0);
         SofaDig spring = Check.taught("seats 3 layers 8;spring in 1,7;coin in 1,0 year 1;");
         for (int i = 0; i < 8; i++) {
             spring.dig(0);
@@ -243,6 +280,7 @@ public final class DayBoundsTest {
         for (int seat = 0; seat < 4; seat++) {
             Check.same("bestDig()", dig.bestDig(), seat);
             dig.dig(seat);
+            Check.same("bestDig() of a single cushion", dig.bestDig(), seat);
             dig.dig(seat);
         }
         Check.same("bestDig() of none", dig.bestDig(), -1);

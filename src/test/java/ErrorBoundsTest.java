@@ -20,6 +20,7 @@ public final class ErrorBoundsTest {
         numberedFromNought();
         refusedTapes();
         anew();
+        manyTapes();
         Check.finish();
     }
 
@@ -206,7 +207,10 @@ public final class ErrorBoundsTest {
         Check.fails(4, Texts.empires(6) + "empire ^e6 from 1 to 2;");
         // A place that is none can't be one that has already what the line tells.
         Check.fails(5, "spring in 3,5;spring in 3,^6;");
-        Check.fails(5, "seats 8 layers 2;coin in 1,0 year 1;coin in 0,^10 year 1;");
+        Check.fails(5, "seats 8 layers 2;coin in 1,0 year 1;coin in 0,^2 year 1;");
+        Check.fails(5, "seats 8 layers 10;coin in 1,0 year 1;coin in 0,^10 year 1;");
+        Check.fails(5, "seats 8 layers 10;spring in 1,0;spring in 0,^10;");
+        Check.fails(5, "seats 8 layers 10;spring in 7,9;spring in ^8,0;");
         Check.fails(5, "spring in 3,5;spring in ^4,5;");
     }
 
@@ -283,25 +287,60 @@ public final class ErrorBoundsTest {
             });
             twins.alone("teach() of " + text, dig -> Check.teachText(dig, text), error);
             twins.alone("trim(1) behind " + text, dig -> dig.trim(1), Check.ARGUMENT);
-            // errorAt() alone is another one: an error with the same place brings it to both.
-            twins.both(dig -> Check.same("teach() of ;", Check.teachText(dig, ";"), 1));
-            twins.alike("the error " + error).liveOn("the error " + error);
+            Answers.same("behind the error " + error, twins.one, twins.other);
+            twins.liveOn("the error " + error);
         }
     }
 
-    /** "all begins anew, with all cushions and without props", nothing is left of the sofa of before. */
+    /** "all begins anew, with all cushions and without props": nothing is left of the sofas of before, nor of a refused one. */
     private static void anew() {
-        String full = "seats 8 layers 10;" + Texts.empires(6) + Texts.coins(24) + "spring in 0,0;" + "prop day;".repeat(8) + "dig 1;".repeat(8);
-        String[] texts = {"", "seats 2 layers 2;coin in 1,1 year 5;", full, "seats 3 layers 10;empire a from 1 to 2;crumbs in 2,9 of a;free 1;"};
+        String full = "seats 3 layers 4;empire a from 1 to 2;empire b from 3 to 4;" + Texts.coins(3) + "coin in 0,3 year 5;coin in 1,3 year 6;"
+            + "crumbs in 2,3 of a;crumbs in 0,2 of b;spring in 0,3;spring in 1,1;spring in 2,0;prop 0;prop 1;dig 2;free 1 when day=1;";
+        String[] texts = {"", "seats 2 layers 2;coin in 1,1 year 5;", full, "seats 8 layers 10;" + Texts.empires(6) + Texts.coins(24) + "dig day;".repeat(16),
+            "seats 3 layers 10;empire a from 1 to 2;crumbs in 2,9 of a;free 1;dig 2 when seen a;", "seats 3 layers 4;dig 0;"};
         for (String text : texts) {
             SofaDig dig = Check.taught(full);
-            dig.passDays(30);
-            Check.same("props() ahead of it", dig.props(), 3);
+            digAll(dig);
+            Check.same("teach() again", Check.teachText(dig, full), 0);
+            digAll(dig);
+            Check.same("teach() of an error", Check.teachText(dig, full + "dig"), 1);
             Check.same("teach() of " + text, Check.teachText(dig, text), 0);
             SofaDig fresh = Check.taught(text);
             Answers.same("anew " + text, dig, fresh);
             Check.same("passDays(7) anew", dig.passDays(7), fresh.passDays(7));
             Check.same("digest() anew", dig.digest(), fresh.digest());
         }
+    }
+
+    /** A full tape is no fuller for those that were taught before it. */
+    private static void manyTapes() {
+        SofaDig dig = new SofaDig();
+        for (int i = 0; i < 5; i++) {
+            String text = Texts.orderOf(399 + i % 2);
+            Check.same("teach() of a full tape", Check.teachText(dig, text), 0);
+            dig.passDays(1);
+            int seat = i % 2 == 0 ? 199 % 4 : 197 % 4;
+            Check.same("heightOf(" + seat + ") behind the tape " + i, dig.heightOf(seat), 5);
+            Check.same("cushionsDug() behind the tape " + i, dig.cushionsDug(), 1);
+        }
+        Check.same("teach() of an error", Check.teachText(dig, Texts.orderOf(399) + "dig"), 1);
+        Check.same("teach() of all that there can be", Check.teachText(dig, Texts.empires(6) + Texts.coins(24) + "dig 0;dig 1;dig 2;dig 3;".repeat(4)), 0);
+        Check.same("passDays(1)", dig.passDays(1), 16);
+        Check.same("teach() of two orders", Check.teachText(dig, "dig 2 when day=0;prop 3;"), 0);
+        dig.passDays(2);
+        Check.same("cushionsDug() by two orders", dig.cushionsDug(), 1);
+        Check.same("heightOf(2) by two orders", dig.heightOf(2), 5);
+        Check.same("isPropped(3) by two orders", dig.isPropped(3), true);
+    }
+
+    private static void digAll(SofaDig dig) {
+        dig.passDays(2);
+        for (int seat = 2; seat >= 0; seat--) {
+            while (dig.heightOf(seat) > 0) {
+                dig.dig(seat);
+            }
+        }
+        Check.same("found() of all", dig.found(), dig.finds());
+        dig.prop(2);
     }
 }

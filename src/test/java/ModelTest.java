@@ -1,6 +1,8 @@
 /** Many sofas, taught and dug at both the class and the model: all answers are the same. */
 public final class ModelTest {
-    private static final int RUNS = 1500;
+    private static final int RUNS = 4000;
+    /* Behind so many calls of an object the document promises nothing. */
+    private static final int MOST_CALLS = 512;
     private static final int SPOILT_TAPES = 3000;
 
     private ModelTest() {
@@ -44,12 +46,20 @@ public final class ModelTest {
         SofaDig dig = new SofaDig();
         Check.same("teach() of " + tape, Check.teachText(dig, tape), 0);
         Check.same("the model's error of " + tape, model.error, 0);
+        int calls = tape.length() / 20 + 5;
+        int comparing = 12 + 4 * model.stacks.size() + 7 * model.finds.size() + model.strata * model.empires.size();
         int steps = dice.from(5, 60);
-        for (int step = 0; step < steps; step++) {
+        for (int step = 0; step < steps && calls + 2 + comparing < MOST_CALLS; step++) {
             act(dice, dig, model, tape);
-            compare(dig, model, tape);
+            Check.same("digest() in " + tape, dig.digest(), model.digest());
+            calls += 2;
+            if (dice.oneIn(4) && calls + 2 * comparing < MOST_CALLS) {
+                compare(dig, model, tape);
+                calls += comparing;
+            }
         }
-        return dig.slides() > 0 ? 1 : 0;
+        compare(dig, model, tape);
+        return model.slides > 0 ? 1 : 0;
     }
 
     private static void act(Dice dice, SofaDig dig, Model model, String tape) {

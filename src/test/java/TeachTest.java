@@ -179,11 +179,8 @@ public final class TeachTest {
     }
 
     private static void tooMany() {
-        StringBuilder empires = new StringBuilder();
-        for (int i = 0; i < 6; i++) {
-            empires.append("empire e").append(i).append(" from 1 to 2;");
-        }
-        Check.holds(empires.toString());
+        String empires = Texts.empires(6);
+        Check.holds(empires);
         Check.fails(4, empires + "empire ^e6 from 1 to 2;");
         Check.fails(2, empires + "empire ^e5 from 1 to 2;");
         Check.fails(4, empires + "empire ^e6 from 2 to 1;");

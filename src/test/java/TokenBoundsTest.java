@@ -10,11 +10,13 @@ public final class TokenBoundsTest {
         blanks();
         joinedTokens();
         longestWord();
+        wordsThatDiffer();
         longestNumber();
         longestToken();
         symbols();
         emptyTapes();
         optionalParts();
+        missingParts();
         mostTokens();
         tokenBehindTheMost();
         deepestParentheses();
@@ -124,6 +126,36 @@ public final class TokenBoundsTest {
         Check.fails(1, "dig 1;^abcdefghijk");
     }
 
+    /** Names are the same only if all their bytes are. */
+    private static void wordsThatDiffer() {
+        String signs = "abcdefghijklmnopqrstuvwxyz0123456789";
+        String longest = "m".repeat(10);
+        for (int place = 0; place < 10; place++) {
+            for (int i = place == 0 ? 10 : 0; i < 36; i++) {
+                String other = longest.substring(0, place) + signs.charAt((i + 26) % 36) + longest.substring(place + 1);
+                looksUp(longest, other);
+            }
+        }
+        for (String name : new String[] {"a0", "a9", "az", "m0", "qq", "z0", "zz"}) {
+            for (int first = 0; first < 26; first++) {
+                for (int second = 0; second < 36; second++) {
+                    looksUp(name, "" + signs.charAt(first) + signs.charAt(second));
+                }
+            }
+        }
+        looksUp("abc", "acb");
+        looksUp("abc", "cba");
+    }
+
+    private static void looksUp(String told, String wanted) {
+        SofaDig dig = new SofaDig();
+        // Two-letter keywords are no names.
+        if (!"to in of or".contains(wanted)) {
+            int error = Check.teachText(dig, "empire " + told + " from 1 to 2;dig first of " + wanted + ";");
+            Check.same("teach() of " + told + " and " + wanted, error, told.equals(wanted) ? 0 : 3);
+        }
+    }
+
     /** "1 to 6 digits" */
     private static void longestNumber() {
         Check.holds("dig 0;");
@@ -177,6 +209,58 @@ public final class TokenBoundsTest {
         Check.fails(1, "dig 1 when^;");
         Check.fails(1, "dig ^when day=1;");
         Check.holds("dig 1+1+1*1*1-1/1/1 when day=1 or day=2 and day=3 and not not day=4 or day=5;");
+    }
+
+    /** What is neither optional nor repeated stands once: without it, the token behind it is the first wrong one. */
+    private static void missingParts() {
+        Check.fails(1, "seats ^layers 4;");
+        Check.fails(1, "seats 4 layers^;");
+        Check.fails(1, "seats 4^;");
+        Check.fails(1, "empire ^from 1 to 2;");
+        Check.fails(1, "empire a ^to 2;");
+        Check.fails(1, "empire a from ^to 2;");
+        Check.fails(1, "empire a from 1^;");
+        Check.fails(1, "empire a from 1 to^;");
+        Check.fails(1, "empire a ^1 to 2;");
+        Check.fails(1, "coin ^year 1;");
+        Check.fails(1, "coin ^0,0 year 1;");
+        Check.fails(1, "coin in ^,0 year 1;");
+        Check.fails(1, "coin in 0 ^year 1;");
+        Check.fails(1, "coin in 0, ^year 1;");
+        Check.fails(1, "coin in 0,0^;");
+        Check.fails(1, "coin in 0,0 year^;");
+        Check.fails(1, "coin in 0,0 ^1;");
+        Check.fails(1, "spring^;");
+        Check.fails(1, "spring in^;");
+        Check.fails(1, "spring in 0^;");
+        Check.fails(1, "spring in 0,^;");
+        String a = "empire a from 1 to 2;";
+        Check.fails(1, a + "crumbs ^of a;");
+        Check.fails(1, a + "crumbs in 0,0^;");
+        Check.fails(1, a + "crumbs in 0,0 ^a;");
+        Check.fails(1, a + "crumbs in 0,0 of^;");
+        Check.fails(1, a + "dig first of^;");
+        Check.fails(1, a + "dig last ^a;");
+        Check.fails(1, a + "dig 1 when seen^;");
+        Check.fails(1, a + "dig 1 when seen ^and seen a;");
+        Check.fails(1, "dig 1 when sure^;");
+        Check.fails(1, "dig 1 when day ^day;");
+        Check.fails(1, "dig 1 when 1 ^1;");
+        Check.fails(1, "dig 1 when day ^or day=1;");
+        Check.fails(1, "dig 1 when day=^;");
+        Check.fails(1, "dig 1 when ^=1;");
+        Check.fails(1, "dig 1 ^day=1;");
+        Check.fails(1, "dig 1 when [^];");
+        Check.fails(1, "dig 1 when not^;");
+        Check.fails(1, "dig (1^;");
+        Check.fails(1, "dig height^;");
+        Check.fails(1, "dig height(^);");
+        Check.fails(1, "dig min(1^);");
+        Check.fails(1, "dig min(1,^);");
+        Check.fails(1, "dig max(^,1);");
+        Check.fails(1, "dig 1 ^prop 1;");
+        Check.fails(1, "dig 1 *^;");
+        Check.fails(1, "dig -^;");
     }
 
     private static void mostTokens() {

@@ -30,6 +30,7 @@ final class Twins {
     }
 
     Twins alike(String what) {
+        Check.same("errorAt() behind " + what, one.errorAt(), other.errorAt());
         Answers.same("behind " + what, one, other);
         return this;
     }
