@@ -20,6 +20,7 @@ public final class ErrorBoundsTest {
         numberedFromNought();
         refusedTapes();
         anew();
+        samePlacesAnew();
         manyTapes();
         Check.finish();
     }
@@ -309,6 +310,21 @@ public final class ErrorBoundsTest {
             Answers.same("anew " + text, dig, fresh);
             Check.same("passDays(7) anew", dig.passDays(7), fresh.passDays(7));
             Check.same("digest() anew", dig.digest(), fresh.digest());
+        }
+    }
+
+    /** What was told of a place in a sofa of before is told of no place now. */
+    private static void samePlacesAnew() {
+        String corners = "seats 8 layers 10;empire a from 1 to 2;coin in 0,0 year 1;crumbs in 7,9 of a;coin in 0,9 year 1;crumbs in 7,0 of a;"
+            + "spring in 0,0;spring in 7,9;spring in 0,9;spring in 7,0;";
+        SofaDig dig = new SofaDig();
+        for (int i = 0; i < 4; i++) {
+            Check.same("teach() for the time " + i, Check.teachText(dig, corners), 0);
+            Check.same("teach() with an error for the time " + i, Check.teachText(dig, corners + "dig first of b;"), 3);
+            Check.same("hasTopSpring(7)", dig.hasTopSpring(7), true);
+            Check.same("teach() of none of them", Check.teachText(dig, "seats 8 layers 10;"), 0);
+            Check.same("hasTopSpring(7) of none", dig.hasTopSpring(7), false);
+            Check.same("findsLeft(0) of none", dig.findsLeft(0), 0);
         }
     }
 

@@ -288,6 +288,19 @@ public final class TokenBoundsTest {
         Check.fails(1, Texts.orderOf(396) + "dig 1 ^1;");
         Check.fails(1, Texts.orderOf(401).replaceAll(";$", "^;"));
         Check.fails(1, Texts.orderOf(402).replaceAll("1;$", "^1;"));
+        // Whatever is due there: a number, a name, a keyword, a value, a sign, an end.
+        Check.fails(1, Texts.orderOf(394) + "coin in 0,0 year ^1;");
+        Check.fails(1, Texts.orderOf(398) + "coin in ^0,0 year 1;");
+        Check.fails(1, Texts.orderOf(399) + "empire ^a from 1 to 2;");
+        Check.fails(1, Texts.orderOf(398) + "empire a ^from 1 to 2;");
+        Check.fails(1, Texts.orderOf(398) + "dig 1 ^when day=1;");
+        Check.fails(1, Texts.orderOf(398) + "dig -^1;");
+        Check.fails(1, Texts.orderOf(398) + "dig -^-1;");
+        Check.fails(1, Texts.orderOf(398) + "dig (^(1));");
+        Check.fails(1, Texts.orderOf(397) + "dig (1^);");
+        Check.fails(1, Texts.orderOf(397) + "dig 1+^1;");
+        Check.fails(1, Texts.orderOf(397) + "dig 1 when ^not day=1;");
+        Check.fails(1, Texts.orderOf(396) + "dig 1 when day^=1;");
         // An error 1 ahead of it is the first one, one of another kind is not looked at.
         Check.fails(1, "dig ^)" + "+1".repeat(300) + ";");
         Check.fails(1, "coin in 9,9 year 1;" + Texts.orderOf(392) + "^dig 1;");
